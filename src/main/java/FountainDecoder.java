@@ -200,7 +200,8 @@ public final class FountainDecoder {
     private void addToBasis(int row) {
         int rest = reduce(row);
         for (int b = MAX_BLOCKS - 1; b >= 0; b--) {
-            if (hasBlock(rest, b)) {
+            int bit = 1 << (VALUE_BITS + b);
+            if ((rest & bit) != 0) {
                 basis[b] = rest;
                 basisSize++;
                 return;
@@ -216,15 +217,12 @@ public final class FountainDecoder {
     private int reduce(int row) {
         int rest = row;
         for (int b = MAX_BLOCKS - 1; b >= 0; b--) {
-            if (hasBlock(rest, b)) {
+            int bit = 1 << (VALUE_BITS + b);
+            if ((rest & bit) != 0) {
                 rest ^= basis[b];
             }
         }
         return rest;
-    }
-
-    private static boolean hasBlock(int row, int block) {
-        return ((row >> (VALUE_BITS + block)) & 1) != 0;
     }
 
     /** Leaves the basis of the same symbols behind. */

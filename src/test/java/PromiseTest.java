@@ -142,6 +142,9 @@ public final class PromiseTest {
         due("setOf(3)", x.setOf(3), 80);
         due("setOf(17)", x.setOf(17), 137);
         due("setOf(9999)", x.setOf(9999), 12);
+        due("setOf(8), blocks 1, 2, 2", x.setOf(8), 2);
+        due("setOf(16), blocks 1, 1", x.setOf(16), 1);
+        due("setOf(165), blocks 4, 4, 4", x.setOf(165), 16);
         due("symbols()", x.symbols(), 0);
         FountainDecoder y = new FountainDecoder(1);
         for (int r = 0; r < 20; r++) {
@@ -315,6 +318,11 @@ public final class PromiseTest {
         due("none", x.useful(), 0);
         x.draw(0, 0);
         due("after draw(0, 0)", x.useful(), 1);
+        // The sets of the numbers 0 .. 5 are 2, 1, 128, 80, 36 and 17: those of 3 and
+        // 4 are new, but tell no block.
+        due("new sums that tell nothing", with(8, 2, 0, 1, 0, 128, 0).useful(), 5);
+        // The set 80 of the number 3 is fixed by 84 and 4; block 2 makes 36 tell block 5.
+        due("a sum that is fixed", with(8, 131, 0, 1, 0, 2, 0, 84, 0, 4, 9).useful(), 4);
         due("one block", with(1).useful(), 0);
         due("one block, known", with(1, 1, 0).useful(), -1);
         due("all known", with(3, 1, 0, 2, 0, 4, 0).useful(), -1);
