@@ -271,12 +271,12 @@ public final class FountainDecoder {
 
     private int peelFrom(int start) {
         int done = start;
-        // A round that is not the last peels a block, so there are never more.
+        // A round that peels nothing is the end, so as many rounds as blocks are enough.
         for (int round = 0; round < blockCount; round++) {
             for (int i = 0; i < symbolCount; i++) {
                 int left = (symbolRows[i] >> VALUE_BITS) & ~done;
-                boolean single = (left & (left - 1)) == 0;
-                if (single) {
+                boolean atMostOne = (left & (left - 1)) == 0;
+                if (atMostOne) {
                     done |= left;
                 }
             }
